@@ -33,11 +33,12 @@ public final class EightWays {
     private final Setting guess = new Setting();
     private final Past past = new Past();
     private final Setting[] images = new Setting[IMAGES];
-    private final boolean[] imageKept = new boolean[IMAGES];
-    private final Chart best = new Chart();
-    private final Chart guessed = new Chart();
-    private final Places places = new Places();
-    private final Sides sides = new Sides();
+    /** The set of images that were kept. */
+    private int imagesKept;
+    private final Chart best = new Chart(current, now);
+    private final Chart guessed = new Chart(current, guess);
+    private final Places places = new Places(best);
+    private final Sides sides = new Sides(best);
     private boolean bestKnown, tallyKnown, placesKnown, sidesKnown;
     private int tally;
 
@@ -67,7 +68,7 @@ public final class EightWays {
         current = read;
         now.start(current);
         past.clear();
-        Arrays.fill(imageKept, false);
+        imagesKept = 0;
         forget();
         return current.stations;
     }
@@ -246,7 +247,7 @@ public final class EightWays {
         }
         guess.become(now);
         guess.fixed[e] = direction;
-        guessed.draw(current, guess);
+        guessed.draw(current);
         return guessed.cost;
     }
 
@@ -286,7 +287,7 @@ public final class EightWays {
             return UNKNOWN;
         }
         images[i].become(now);
-        imageKept[i] = true;
+        imagesKept |= 1 << i;
         past.clear();
         return 1;
     }
@@ -295,7 +296,7 @@ public final class EightWays {
         if (!isImage(i)) {
             return UNKNOWN;
         }
-        if (!imageKept[i]) {
+        if (!has(imagesKept, i)) {
             return NOT;
         }
         now.become(images[i]);
@@ -346,7 +347,7 @@ public final class EightWays {
 
     private Chart knownBest() {
         if (!bestKnown) {
-            best.draw(current, now);
+            best.draw(current);
             bestKnown = true;
         }
         return best;
@@ -354,7 +355,8 @@ public final class EightWays {
 
     private Places knownPlaces() {
         if (!placesKnown) {
-            places.settle(current, knownBest());
+            knownBest();
+            places.settle();
             placesKnown = true;
         }
         return places;
@@ -362,7 +364,8 @@ public final class EightWays {
 
     private Sides knownSides() {
         if (!sidesKnown) {
-            sides.settle(current, knownBest());
+            knownBest();
+            sides.settle();
             sidesKnown = true;
         }
         return sides;
@@ -795,13 +798,17 @@ public final class EightWays {
         final int[] direction = new int[MOST_STRETCHES];
         private final int[] truth = new int[MOST_STRETCHES];
         private final int[] trial = new int[MOST_STRETCHES];
-        private Net net;
-        private Setting setting;
+        private final Setting setting;
+        Net net;
         private int least;
 
-        void draw(Net drawn, Setting set) {
+        Chart(Net drawn, Setting set) {
             net = drawn;
             setting = set;
+        }
+
+        void draw(Net drawn) {
+            net = drawn;
             for (int e = 0; e < net.stretches; e++) {
                 truth[e] = trueOf(net, setting, e);
             }
@@ -818,7 +825,8 @@ public final class EightWays {
                 System.arraycopy(trial, 0, direction, 0, e);
                 return;
             }
-            for (int i = 0; i < choices(e); i++) {
+            int choices = setting.fixed[e] == NONE ? 3 : 1;
+            for (int i = 0; i < choices; i++) {
                 trial[e] = choice(e, i);
                 int more = added(e);
                 if (more != NONE && soFar + more < least) {
@@ -836,17 +844,14 @@ public final class EightWays {
                 return 1;
             }
             int found = 0;
-            for (int i = 0; i < choices(e); i++) {
+            int choices = setting.fixed[e] == NONE ? 3 : 1;
+            for (int i = 0; i < choices; i++) {
                 trial[e] = choice(e, i);
                 if (isFree(e)) {
                     found += tallyFrom(e + 1);
                 }
             }
             return found;
-        }
-
-        private int choices(int e) {
-            return setting.fixed[e] == NONE ? 3 : 1;
         }
 
         private int choice(int e, int i) {
@@ -927,12 +932,18 @@ public final class EightWays {
         /** Row e: where stations lie by the stretches ahead of e, each tree of these by itself. */
         private final int[][] rowX = new int[MOST_STRETCHES + 1][MOST_STATIONS];
         private final int[][] rowY = new int[MOST_STRETCHES + 1][MOST_STATIONS];
+        private final Chart chart;
+        private final int[] direction;
         private Net net;
-        private int[] direction;
 
-        void settle(Net drawn, Chart chart) {
-            net = drawn;
-            direction = chart.direction;
+        Places(Chart drawn) {
+            chart = drawn;
+            direction = drawn.direction;
+            net = drawn.net;
+        }
+
+        void settle() {
+            net = chart.net;
             total = FAR;
             signs = NONE;
             Arrays.fill(length, NONE);
@@ -1060,13 +1071,20 @@ public final class EightWays {
         private final int[] two = new int[MOST_STATIONS];
         private final int[] fewest = new int[RANKINGS];
         private final int[] fewestNext = new int[RANKINGS];
-        private final boolean[] seen = new boolean[MOST_STRETCHES];
+        /** The set of stretches that a chain has come by. */
+        private int seen;
+        private final Chart chart;
+        private final int[] direction;
         private Net net;
-        private int[] direction;
 
-        void settle(Net drawn, Chart chart) {
-            net = drawn;
-            direction = chart.direction;
+        Sides(Chart drawn) {
+            chart = drawn;
+            direction = drawn.direction;
+            net = drawn.net;
+        }
+
+        void settle() {
+            net = chart.net;
             Arrays.fill(crossed, 0);
             Arrays.fill(ranking, NONE);
             total = NONE;
@@ -1199,10 +1217,10 @@ public final class EightWays {
 
         /** The fewest crossings that there can be with the rankings that are settled. */
         private int fewestCrossings() {
-            Arrays.fill(seen, false);
+            seen = 0;
             int sum = 0;
             for (int e = 0; e < net.stretches; e++) {
-                if (!seen[e] && isChainEnd(e)) {
+                if (!has(seen, e) && isChainEnd(e)) {
                     sum += alongChain(e);
                 }
             }
@@ -1219,14 +1237,14 @@ public final class EightWays {
 
         private int alongChain(int start) {
             int e = start;
-            seen[e] = true;
+            seen |= 1 << e;
             for (int i = 0; i < RANKINGS; i++) {
-                fewest[i] = mayBe(e, i) ? partingCrossings[e * RANKINGS + i] : FAR;
+                fewest[i] = ranking[e] == NONE || ranking[e] == i ? partingCrossings[e * RANKINGS + i] : FAR;
             }
             int s = nextJoint(e);
             for (int step = 0; step < MOST_STRETCHES && s != NONE; step++) {
                 e = otherAt(s, e);
-                seen[e] = true;
+                seen |= 1 << e;
                 goOn(s, e);
                 s = nextJoint(e);
             }
@@ -1239,12 +1257,13 @@ public final class EightWays {
 
         private void goOn(int s, int e) {
             for (int i = 0; i < RANKINGS; i++) {
+                boolean mayBe = ranking[e] == NONE || ranking[e] == i;
                 int least = FAR;
-                for (int j = 0; j < RANKINGS && mayBe(e, i); j++) {
+                for (int j = 0; j < RANKINGS && mayBe; j++) {
                     int crossings = BITS_IN[(SIDES[i] ^ SIDES[j] ^ pairingSwapped[s]) & pairing[s]];
                     least = Math.min(least, fewest[j] + crossings);
                 }
-                fewestNext[i] = Math.min(FAR, least + partingCrossings[e * RANKINGS + i]);
+                fewestNext[i] = mayBe ? least + partingCrossings[e * RANKINGS + i] : FAR;
             }
             System.arraycopy(fewestNext, 0, fewest, 0, RANKINGS);
         }
@@ -1253,18 +1272,14 @@ public final class EightWays {
         private int nextJoint(int e) {
             int a = net.a[e];
             int b = net.b[e];
-            if (isPaired(e, a) && !seen[otherAt(a, e)]) {
+            if (isPaired(e, a) && !has(seen, otherAt(a, e))) {
                 return a;
             }
-            return isPaired(e, b) && !seen[otherAt(b, e)] ? b : NONE;
+            return isPaired(e, b) && !has(seen, otherAt(b, e)) ? b : NONE;
         }
 
         private int otherAt(int s, int e) {
             return one[s] == e ? two[s] : one[s];
-        }
-
-        private boolean mayBe(int e, int i) {
-            return ranking[e] == NONE || ranking[e] == i;
         }
 
         private int partingCrossed(int place, int i) {

@@ -593,6 +593,14 @@ public final class PromisesTest {
         x.fix(3, 7);
         x.fix(4, 7);
         due("crossings(1)", x.crossings(1), NONE);
+        // each fork has its lines as it wants them: they change sides between, at station 0
+        EightWays middle = Check.netOf("s50 50;s40 50;s60 50;s20 70;s20 30;s80 70;s80 30;e1 0;e2 0;e1 3;e1 4;e2 5;e2 6;l3 6;l4 5;");
+        orderIs(middle, 0, 0, 1);
+        orderIs(middle, 1, 0, 1);
+        due("crossings(0)", middle.crossings(0), 1);
+        due("crossings(1)", middle.crossings(1), 0);
+        due("crossings(2)", middle.crossings(2), 0);
+        due("told(9)", middle.told(9), 1);
         // a line that ends where the other goes on doesn't cross it
         EightWays ending = Check.netOf(FORKS + "l2 1;l3 4;");
         due("told(9)", ending.told(9), 0);

@@ -18,6 +18,14 @@ final class Check {
         }
     }
 
+    void due(String call, String got, String want) {
+        if (got.equals(want)) {
+            calls++;
+        } else {
+            fail(call + " answered\n" + got + "due is\n" + want);
+        }
+    }
+
     void fail(String why) {
         calls++;
         wrong++;
@@ -33,6 +41,17 @@ final class Check {
         if (wrong != 0) {
             System.exit(1);
         }
+    }
+
+    /** A text fed to a new object: what net() answers, where its fault is and why. */
+    void reads(String text, int answer, int at, int why) {
+        EightWays x = new EightWays();
+        feed(x, text);
+        due("net() of '" + text + "'", x.net(), answer);
+        due("fault(0) of '" + text + "'", x.fault(0), at);
+        due("fault(1) of '" + text + "'", x.fault(1), why);
+        due("told(0) of '" + text + "'", x.told(0), Math.max(answer, 0));
+        due("told(3) of '" + text + "'", x.told(3), 0);
     }
 
     static void feed(EightWays x, String text) {

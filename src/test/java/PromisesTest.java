@@ -83,12 +83,7 @@ public final class PromisesTest {
     }
 
     private static void reads(String text, int answer, int at, int why) {
-        EightWays x = new EightWays();
-        Check.feed(x, text);
-        due("net() of '" + text + "'", x.net(), answer);
-        due("fault(0) of '" + text + "'", x.fault(0), at);
-        due("fault(1) of '" + text + "'", x.fault(1), why);
-        due("told(3) of '" + text + "'", x.told(3), 0);
+        CHECK.reads(text, answer, at, why);
     }
 
     private static void netTexts() {

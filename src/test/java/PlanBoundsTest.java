@@ -39,7 +39,9 @@ public final class PlanBoundsTest {
         lengthsOfOne();
         lengthsAsLittleTogether();
         lengthsUpToThree();
+        lengthsNoLongerThanThree();
         lengthsOfEachTree();
+        placesWhereTreesAreJoined();
         wouldChangesNothing();
         alongAndSets();
         CHECK.end();
@@ -604,6 +606,41 @@ public final class PlanBoundsTest {
             due("station(" + s + ", 4)", x.station(s, 4), places[s][0]);
             due("station(" + s + ", 5)", x.station(s, 5), places[s][1]);
         }
+    }
+
+    /** With a length of four the first would be 1, 1, 1, 1, 1, 1, 4; no net needs more than 10 together. */
+    private static void lengthsNoLongerThanThree() {
+        CHECK.part("lengths no longer than three");
+        EightWays x = Check.netOf("s5 5;".repeat(8) + "e0 2;e0 3;e1 4;e1 5;e2 6;e6 7;e0 1;");
+        int[] directions = {2, 1, 2, 3, 7, 1, 0};
+        for (int e = 0; e < 7; e++) {
+            x.fix(e, directions[e]);
+        }
+        lengthsAre(x, 1, 1, 1, 1, 1, 2, 3);
+        int[][] places = {{0, 0}, {3, 0}, {0, 1}, {1, 1}, {3, 1}, {2, 1}, {1, 0}, {3, 2}};
+        for (int s = 0; s < 8; s++) {
+            due("station(" + s + ", 4)", x.station(s, 4), places[s][0]);
+            due("station(" + s + ", 5)", x.station(s, 5), places[s][1]);
+        }
+    }
+
+    /** Stretches that join two trees in their midst, told in any order, bring all stations to the same places. */
+    private static void placesWhereTreesAreJoined() {
+        CHECK.part("places where trees are joined");
+        int[][] places = {{0, 0}, {1, 0}, {2, 1}, {2, 2}, {1, 3}};
+        String[] told = {"e0 1;e1 2;e2 3;e3 4;", "e3 4;e2 3;e1 2;e0 1;", "e1 2;e3 4;e2 3;e0 1;", "e2 1;e4 3;e1 0;e3 2;", "e3 2;e1 0;e4 3;e2 1;"};
+        for (String stretches : told) {
+            EightWays x = Check.netOf("s10 10;s20 10;s30 20;s30 30;s20 40;" + stretches);
+            for (int s = 0; s < 5; s++) {
+                due("station(" + s + ", 4) of " + stretches, x.station(s, 4), places[s][0]);
+                due("station(" + s + ", 5) of " + stretches, x.station(s, 5), places[s][1]);
+            }
+        }
+        // the first station is joined last, and another comes to its place unless one is longer
+        EightWays last = Check.netOf("s0 0;s9 0;s9 9;s0 9;s0 1;e2 1;e3 2;e4 3;e1 0;");
+        lengthsAre(last, 1, 1, 1, 2);
+        due("station(4, 4)", last.station(4, 4), 1);
+        due("station(4, 5)", last.station(4, 5), 0);
     }
 
     /** "no two STATIONS of a tree": those of two trees may come to one place. */

@@ -1,3 +1,5 @@
+import java.util.Arrays;
+
 /** The bounds of orders, crossings and signs, sentence by sentence: the first half of part 3 of the terms, promises 19 to 21. */
 public final class SideBoundsTest {
     private static final int NONE = -1, UNKNOWN = -1000000001;
@@ -8,6 +10,8 @@ public final class SideBoundsTest {
         greaterTurnToTheLeft();
         leftAsOneGoesFromAToB();
         linesToldEitherWay();
+        threeLinesInAnyOrder();
+        threeLinesFromAnyToAnyOrder();
         changeOfSidesIsACrossing();
         orderAcrossTellings();
         wrongSideIsACrossing();
@@ -89,6 +93,76 @@ public final class SideBoundsTest {
             EightWays x = fixedNet(4, "e0 1;e1 2;e1 3;" + lines, 0, 7, 1);
             orderIs(x, 0, 1, 0);
             due("told(9) of " + lines, x.told(9), 0);
+        }
+    }
+
+    private static final int[][] ORDERS = {{0, 1, 2}, {0, 2, 1}, {1, 0, 2}, {1, 2, 0}, {2, 0, 1}, {2, 1, 0}};
+
+    /** Two stretches, then a fork of three: each of the six orders, however the stretches are told. */
+    private static void threeLinesInAnyOrder() {
+        CHECK.part("three lines in any order");
+        for (int[] left : ORDERS) {
+            // line left[i] goes to station 3 + i, which are from the left to the right
+            StringBuilder lines = new StringBuilder();
+            for (int l = 0; l < 3; l++) {
+                lines.append(l == 1 ? "l" + (3 + placeOf(left, l)) + " 0;" : "l0 " + (3 + placeOf(left, l)) + ";");
+            }
+            for (int told = 0; told < 4; told++) {
+                String first = told % 2 == 0 ? "e0 1;" : "e1 0;";
+                String second = told < 2 ? "e1 2;" : "e2 1;";
+                EightWays x = fixedNet(6, "e2 3;e2 4;e2 5;" + second + first + lines, 2, 1, 0, told < 2 ? 1 : 5, told % 2 == 0 ? 1 : 5);
+                due("told(9)", x.told(9), 0);
+                for (int i = 0; i < 3; i++) {
+                    due("order(" + i + ", 0)", x.order(i, 0), left[i]);
+                    due("order(3, " + i + ") of " + second, x.order(3, told < 2 ? i : 2 - i), left[i]);
+                    due("order(4, " + i + ") of " + first, x.order(4, told % 2 == 0 ? i : 2 - i), left[i]);
+                }
+            }
+        }
+    }
+
+    private static int placeOf(int[] order, int line) {
+        return order[0] == line ? 0 : order[1] == line ? 1 : 2;
+    }
+
+    private static boolean isChanged(int[] order, int[] other, int l, int m) {
+        return placeOf(order, l) < placeOf(order, m) != placeOf(other, l) < placeOf(other, m);
+    }
+
+    private static int changes(int[] order, int[] other) {
+        int found = 0;
+        for (int l = 0; l < 3; l++) {
+            for (int m = l + 1; m < 3; m++) {
+                found += isChanged(order, other, l, m) ? 1 : 0;
+            }
+        }
+        return found;
+    }
+
+    /** Threefold forks at both ends of a trunk: as many cross as change sides, and the trunk has the first of the best orders. */
+    private static void threeLinesFromAnyToAnyOrder() {
+        CHECK.part("three lines from any order to any order");
+        for (int[] from : ORDERS) {
+            for (int[] to : ORDERS) {
+                StringBuilder lines = new StringBuilder();
+                for (int l = 0; l < 3; l++) {
+                    lines.append('l').append(2 + placeOf(from, l)).append(' ').append(5 + placeOf(to, l)).append(';');
+                }
+                EightWays x = fixedNet(8, "e0 2;e0 1;e0 3;e0 4;e1 5;e1 6;e1 7;" + lines, 3, 0, 4, 5, 1, 0, 7);
+                int crossings = changes(from, to);
+                due("told(9)", x.told(9), crossings);
+                int[] first = null;
+                for (int i = 5; i >= 0; i--) {
+                    first = changes(from, ORDERS[i]) + changes(ORDERS[i], to) == crossings ? ORDERS[i] : first;
+                }
+                orderIs(x, 1, first);
+                due("crossings(0)", x.crossings(0), changes(from, first));
+                due("crossings(1)", x.crossings(1), changes(first, to));
+                for (int l = 0; l < 3; l++) {
+                    int m = (l + 1) % 3;
+                    due("cross(" + l + ", " + m + ")", x.cross(l, m), isChanged(from, to, l, m) ? 1 : 0);
+                }
+            }
         }
     }
 
@@ -325,7 +399,7 @@ public final class SideBoundsTest {
         int[] directions = new int[0];
         for (int n = 1; n <= 7; n++) {
             told.append("e0 ").append(n).append(';');
-            directions = java.util.Arrays.copyOf(directions, n);
+            directions = Arrays.copyOf(directions, n);
             directions[n - 1] = n - 1;
             EightWays x = fixedNet(n + 1, told.toString(), directions);
             due("station(0, 6) with " + n, x.station(0, 6), n);
@@ -345,6 +419,9 @@ public final class SideBoundsTest {
         for (int s = 0; s < 4; s++) {
             due("station(" + s + ", 6)", x.station(s, 6), signs[s]);
         }
+        // station 0 is in direction 0 of station 3, station 1 in direction 1
+        EightWays first = fixedNet(4, "e0 1;e1 2;e2 3;", 2, 4, 6);
+        due("station(3, 6)", first.station(3, 6), 3);
         // station 3 is in direction 2 of station 0, station 2 in direction 1: without them 1 would be free
         EightWays y = fixedNet(2, "e0 1;", 0);
         due("station(0, 6)", y.station(0, 6), 1);
@@ -369,10 +446,15 @@ public final class SideBoundsTest {
         due("station(4, 4)", x.station(4, 4), 2);
         due("station(4, 5)", x.station(4, 5), 0);
         due("station(0, 6)", x.station(0, 6), 0);
-        // a longer stretch takes its direction, though no station lies beside
-        EightWays y = fixedNet(5, "e0 1;e1 2;e2 3;e3 4;", 0, 2, 4, 6);
-        due("stretch(3, 5)", y.stretch(3, 5), 2);
-        due("station(4, 5)", y.station(4, 5), -1);
-        due("station(3, 6)", y.station(3, 6), 1);
+        // a longer stretch takes its direction, though no station lies beside: from either end
+        EightWays y = fixedNet(5, "e0 1;e0 2;e0 3;e2 4;", 0, 1, 7, 6);
+        due("stretch(1, 5)", y.stretch(1, 5), 2);
+        due("station(0, 6)", y.station(0, 6), 2);
+        EightWays first = fixedNet(6, "e0 1;e1 2;e0 3;e0 4;e1 5;", 0, 2, 6, 1, 5);
+        due("stretch(0, 5)", first.stretch(0, 5), 2);
+        due("station(0, 6)", first.station(0, 6), 2);
+        EightWays z = fixedNet(5, "e1 0;e2 0;e3 0;e4 2;", 4, 5, 3, 2);
+        due("stretch(1, 5)", z.stretch(1, 5), 2);
+        due("station(0, 6)", z.station(0, 6), 2);
     }
 }

@@ -44,6 +44,7 @@ public final class TextBoundsTest {
         faultOfTheLatestNet();
         textIsEmptyThen();
         netAnew();
+        netsOneBehindAnother();
         netWithFault();
         CHECK.end();
     }
@@ -638,6 +639,36 @@ public final class TextBoundsTest {
         due("undo()", x.undo(), NOT);
         due("goBack(0)", x.goBack(0), NOT);
         due("goBack(1)", x.goBack(1), NOT);
+    }
+
+    /** Nothing of an earlier net is left in a later one. */
+    private static void netsOneBehindAnother() {
+        CHECK.part("promise 3, nets one behind another");
+        String[] nets = {
+            "s40 50;s60 50;s20 70;s20 30;s80 70;s80 30;e0 1;e0 2;e0 3;e1 4;e1 5;l2 5;l3 4;l5 2;",
+            "s40 50;s60 50;s20 70;s20 30;s80 70;s80 30;e1 0;e2 0;e0 3;e4 1;e1 5;l2 4;l3 5;l0 4;",
+            "s40 50;s60 50;s20 70;s20 30;s80 70;s80 30;e0 1;e0 2;e0 3;e1 4;e1 5;l3 1;l2 1;",
+            "s50 50;s40 50;s60 50;s20 70;s20 30;s80 70;s80 30;e1 0;e2 0;e1 3;e1 4;e2 5;e2 6;l3 6;l4 5;",
+            "s50 50;s40 50;s60 50;s20 70;s20 30;s80 70;s80 30;e1 0;e0 2;e1 3;e1 4;e2 5;e2 6;l3 6;l4 5;",
+            "s0 0;s9 0;s9 9;s0 9;s0 1;e0 1;e1 2;e2 3;e3 4;l0 1;",
+            "s0 0;s0 9;s0 19;s9 0;e3 0;e2 1;l2 1;", "s3 3;"};
+        for (int first = 0; first < nets.length; first++) {
+            for (int second = 0; second < nets.length; second++) {
+                for (int third = 0; third < nets.length; third++) {
+                    EightWays x = Check.netOf(nets[first]);
+                    x.told(8);
+                    x.told(9);
+                    Check.feed(x, nets[second]);
+                    x.net();
+                    x.drift(3);
+                    x.told(8);
+                    x.told(9);
+                    Check.feed(x, nets[third]);
+                    x.net();
+                    CHECK.due("nets " + first + " " + second + " " + third, Snapshot.of(x), Snapshot.of(Check.netOf(nets[third])));
+                }
+            }
+        }
     }
 
     private static void due(String call, String got, String want) {

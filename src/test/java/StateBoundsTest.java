@@ -24,6 +24,7 @@ public final class StateBoundsTest {
         lotsAreForStationsAlone();
         lotsLeaveTheRest();
         imagesKeepAll();
+        imagesOfAFullNet();
         imagesAreTwo();
         imagesStayAsKept();
         imagesAreOverwritten();
@@ -389,6 +390,37 @@ public final class StateBoundsTest {
             due("goBack(" + i + ")", x.goBack(i), cost);
             CHECK.due("what is so behind goBack()", all(x), was);
         }
+    }
+
+    /** Eight stations, seven stretches fixed: all of them are kept, and undone. */
+    private static void imagesOfAFullNet() {
+        CHECK.part("images of a full net");
+        EightWays x = Check.netOf("s0 0;s10 0;s20 0;s30 0;s40 9;s50 0;s60 0;s70 0;e0 1;e1 2;e2 3;e3 4;e4 5;e5 6;e6 7;l0 7;l7 1;l2 5;");
+        x.keep(0);
+        for (int e = 0; e < 7; e++) {
+            x.fix(e, (e + 6) % 8);
+        }
+        x.drift(1);
+        liesAt(x, 7, 49, 73, 58, 30, 72, 44, 78, 23, 9, 40, 65, 92, 42, 87, 3);
+        due("keep(1)", x.keep(1), 1);
+        x.drift(2);
+        for (int e = 0; e < 7; e++) {
+            due("loose(" + e + ")", x.loose(e), (e + 6) % 8);
+        }
+        due("told(10)", x.told(10), 0);
+        for (int left = 7; left >= 0; left--) {
+            due("undo()", x.undo(), left);
+        }
+        due("told(10)", x.told(10), 127);
+        liesAt(x, 7, 49, 73, 58, 30, 72, 44, 78, 23, 9, 40, 65, 92, 42, 87, 3);
+        x.goBack(0);
+        due("told(10)", x.told(10), 0);
+        liesAt(x, 0, 0, 10, 0, 20, 0, 30, 0, 40, 9, 50, 0, 60, 0, 70, 0);
+        x.goBack(1);
+        for (int e = 0; e < 7; e++) {
+            due("stretch(" + e + ", 6)", x.stretch(e, 6), (e + 6) % 8);
+        }
+        liesAt(x, 7, 49, 73, 58, 30, 72, 44, 78, 23, 9, 40, 65, 92, 42, 87, 3);
     }
 
     private static void imagesAreTwo() {

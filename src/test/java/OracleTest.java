@@ -33,6 +33,7 @@ public final class OracleTest {
         }
         for (int text = 0; text < 3 && calls < 400; text++) {
             String net = seed % 7 == 0 ? longRow() : seed % 7 < 3 ? twoForks() : someNet();
+            net = lots.nextInt(3) == 0 ? mixed(net) : net;
             calls += feed(lots.nextInt(4) == 0 ? spoiled(net) : net);
             check.due("net() of " + net, x.net(), o.net());
             check.due("fault(0) of " + net, x.fault(0), o.fault(0));
@@ -136,6 +137,51 @@ public final class OracleTest {
             t.append(upTo(2) == 0 ? "l" + a + " " + b + ";" : "l" + b + " " + a + ";");
         }
         return t.toString();
+    }
+
+    /** The same stations in their order, stretches and lines among them, each as soon as it may be told or later. */
+    private String mixed(String net) {
+        List<String> waiting = new ArrayList<>(List.of(net.split("(?<=;)")));
+        StringBuilder t = new StringBuilder();
+        int[] group = {0, 1, 2, 3, 4, 5, 6, 7};
+        int told = 0;
+        while (!waiting.isEmpty()) {
+            List<String> next = new ArrayList<>();
+            boolean stationDue = true;
+            for (String clause : waiting) {
+                boolean station = clause.trim().startsWith("s");
+                if (station ? stationDue : mayBeTold(clause, told, group)) {
+                    next.add(clause);
+                }
+                stationDue &= !station;
+            }
+            String clause = next.isEmpty() ? waiting.get(0) : next.get(upTo(next.size()));
+            waiting.remove(clause);
+            t.append(clause);
+            told += clause.trim().startsWith("s") ? 1 : 0;
+            if (clause.startsWith("e")) {
+                join(group, end(clause, 0), end(clause, 1));
+            }
+        }
+        return t.toString();
+    }
+
+    private static boolean mayBeTold(String clause, int told, int[] group) {
+        if (clause.isBlank() || Math.max(end(clause, 0), end(clause, 1)) >= told) {
+            return false;
+        }
+        return clause.startsWith("e") || group[end(clause, 0)] == group[end(clause, 1)];
+    }
+
+    private static void join(int[] group, int a, int b) {
+        int left = group[b];
+        for (int s = 0; s < group.length; s++) {
+            group[s] = group[s] == left ? group[a] : group[s];
+        }
+    }
+
+    private static int end(String clause, int which) {
+        return Integer.parseInt(clause.substring(1, clause.length() - 1).split(" ")[which]);
     }
 
     private String blanks() {
